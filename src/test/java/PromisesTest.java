@@ -91,7 +91,7 @@ public final class PromisesTest {
         due("what BAD left", x.hold(0), -101);
         due("higher bytes do not count", x.type(0x2020202020202054L, 1), 1);
         due("T", x.hold(0), 1);
-        due("negative", x.type(0x8054L, 1), 1);
+        due("nor do bits above them", x.type(0x8000000000000054L, 1), 1);
         due("T again", x.hold(0), 1);
         due("highest first", x.type('=' << 16 | 'a' << 8 | '7', 3), 3);
         due("behind", x.type('a', 1), 4);
@@ -287,6 +287,8 @@ public final class PromisesTest {
             due("narrower " + u, x.refine(1, NARROWER, u), NO);
         }
         due("it is not refined", x.node(1, 1), 0);
+        set(x, 3, "x");
+        due("E is x", x.refine(1, ASSIGN, 0), NO);
         set(x, 3, "+1x");
         due("E has x", x.refine(1, ASSIGN, 0), NO);
         set(x, 0, "=ax");
@@ -795,6 +797,30 @@ public final class PromisesTest {
         due("all laws", y.program(), 8);
         due("not changed by asking", y.program(), 8);
         largestProgram();
+        deepestProgram();
+    }
+
+    /** Fifteen steps, one below the other, and what is done comes of the last node. */
+    private static void deepestProgram() {
+        RefinementBench x = new RefinementBench();
+        x.begin(7);
+        for (int i = 1; i <= 15; i++) {
+            due("narrower", x.refine(i, NARROWER, 7), i + 1);
+        }
+        dueOpen(x, 1, 16);
+        set(x, 3, "-b*2c");
+        x.refine(16, ASSIGN, 0);
+        dueOpen(x, 1, 16);
+        x.prove(16);
+        due("program", x.program(), 2);
+        dueRun(x, new int[] {0, 3, 5, 9}, 1, 1, 3, 5, 1);
+        due("all but the root go", x.prune(1), 15);
+        due("15 nodes", x.refine(1, NARROWER, 7), 2);
+        for (int i = 2; i <= 15; i++) {
+            due("again", x.refine(i, NARROWER, 7), i + 1);
+        }
+        x.begin(7);
+        due("the last one goes too", x.node(16, 0), BAD);
     }
 
     /** Five alternatives with six parts, five of which are loops: as many instructions as there can be. */

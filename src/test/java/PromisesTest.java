@@ -1,21 +1,5 @@
 /** Each promise of the document: ordinary inputs, the edges that it names, and wrong inputs. */
-public final class PromisesTest {
-    private static final int BAD = RefinementBench.BAD;
-    private static final int NO = RefinementBench.NO;
-    private static final int FULL = RefinementBench.FULL;
-
-    private static final int SKIP = 1;
-    private static final int ASSIGN = 2;
-    private static final int SEQUENCE = 3;
-    private static final int ALTERNATIVE = 4;
-    private static final int LOOP = 5;
-    private static final int STRONGER = 6;
-    private static final int WEAKER = 7;
-    private static final int NARROWER = 8;
-
-    private static int wrong = 0;
-    private static String part = "";
-
+public final class PromisesTest extends Checks {
     public static void main(String[] args) {
         newObject();
         type();
@@ -36,14 +20,11 @@ public final class PromisesTest {
         instruction();
         run();
         after();
-        System.out.println(wrong == 0 ? "all promises are kept" : wrong + " answers are not as due");
-        if (wrong != 0) {
-            System.exit(1);
-        }
+        end("all promises are kept");
     }
 
     private static void newObject() {
-        part = "promise 1";
+        test("promise 1");
         RefinementBench x = new RefinementBench();
         due("open", x.open(), 0);
         due("first", x.first(), 0);
@@ -73,7 +54,7 @@ public final class PromisesTest {
     }
 
     private static void type() {
-        part = "promise 2";
+        test("promise 2");
         RefinementBench x = new RefinementBench();
         due("n 0", x.type('T', 0), BAD);
         due("n -1", x.type('T', -1), BAD);
@@ -114,7 +95,7 @@ public final class PromisesTest {
     }
 
     private static void hold() {
-        part = "promise 3";
+        test("promise 3");
         RefinementBench x = new RefinementBench();
         put(x, "T");
         due("slot 4", x.hold(4), BAD);
@@ -153,7 +134,7 @@ public final class PromisesTest {
     }
 
     private static void holdWrong() {
-        part = "promise 3, wrong";
+        test("promise 3, wrong");
         String[] formulas = {"", "=", "=a", "=a8", "=a9", "=az", "=ay", "=ad", "=aA", "z", "a", "0", "Ta", "TT",
             "=abc", "!", "!!", "&", "&T", "&TTT", "&=a&", "=T", "=+a", "=+ab", "=+abT", "<ab<ab", "&<abx", "t", "X",
             "=a=", "|T", ">T", "+ab", "=a!", "=~~", "!a", "&Ta", "=--------T"};
@@ -174,7 +155,7 @@ public final class PromisesTest {
     }
 
     private static void begin() {
-        part = "promise 4";
+        test("promise 4");
         RefinementBench x = new RefinementBench();
         due("frame -1", x.begin(-1), BAD);
         due("frame 8", x.begin(8), BAD);
@@ -201,22 +182,21 @@ public final class PromisesTest {
     }
 
     private static void refineTexts() {
-        part = "promise 5";
-        RefinementBench x = new RefinementBench();
+        test("promise 5");
         String p = "=ax";
         String q = "=+ab-xa";
-        dueStep(x, p, q, SKIP, 0, 7, "", "", "", "", ">=ax=+ab-xa", "");
-        dueStep(x, p, q, ASSIGN, 0, 1, "", "", "", "", ">=ax=+*bcb-x*bc", "");
-        dueStep(x, p, q, ASSIGN, 1, 2, "", "", "", "", ">=ax=+a*bc-xa", "");
-        dueStep(x, p, q, ASSIGN, 2, 4, "", "", "", "", ">=ax=+ab-xa", "");
-        dueStep(x, p, q, SEQUENCE, 9, 6, p, "<ab", "<ab", q, "", "");
-        dueStep(x, p, q, ALTERNATIVE, -1, 0, "&=ax<ab", q, "&=ax!<ab", q, "", "");
-        dueStep(x, p, q, LOOP, 5, 3, "&&<ab|T=b1=*bcz", "&<ab<*bcz", "", "", ">=ax<ab", ">&<ab!|T=b1=+ab-xa");
-        dueStep(x, p, q, STRONGER, 0, 7, p, "<ab", "", "", "><ab=+ab-xa", "");
-        dueStep(x, p, q, WEAKER, 0, 7, "<ab", q, "", "", ">=ax<ab", "");
-        dueStep(x, p, q, NARROWER, 5, 7, p, q, "", "", "", "");
-        dueStep(x, p, q, NARROWER, 0, 0, p, q, "", "", "", "");
-        x.begin(7);
+        dueStep(p, q, SKIP, 0, 7, "", "", "", "", ">=ax=+ab-xa", "");
+        dueStep(p, q, ASSIGN, 0, 1, "", "", "", "", ">=ax=+*bcb-x*bc", "");
+        dueStep(p, q, ASSIGN, 1, 2, "", "", "", "", ">=ax=+a*bc-xa", "");
+        dueStep(p, q, ASSIGN, 2, 4, "", "", "", "", ">=ax=+ab-xa", "");
+        dueStep(p, q, SEQUENCE, 9, 6, p, "<ab", "<ab", q, "", "");
+        dueStep(p, q, ALTERNATIVE, -1, 0, "&=ax<ab", q, "&=ax!<ab", q, "", "");
+        dueStep(p, q, LOOP, 5, 3, "&&<ab|T=b1=*bcz", "&<ab<*bcz", "", "", ">=ax<ab", ">&<ab!|T=b1=+ab-xa");
+        dueStep(p, q, STRONGER, 0, 7, p, "<ab", "", "", "><ab=+ab-xa", "");
+        dueStep(p, q, WEAKER, 0, 7, "<ab", q, "", "", ">=ax<ab", "");
+        dueStep(p, q, NARROWER, 5, 7, p, q, "", "", "", "");
+        dueStep(p, q, NARROWER, 0, 0, p, q, "", "", "", "");
+        RefinementBench x = begun(7, p, q);
         x.refine(1, NARROWER, 5);
         due("the narrower frame", x.node(2, 0), 5);
         due("none that went is got back", x.refine(2, NARROWER, 7), NO);
@@ -226,11 +206,8 @@ public final class PromisesTest {
     }
 
     /** Begins with p and q, refines the root and looks at all that came of it ("" for none). */
-    private static void dueStep(RefinementBench x, String p, String q, int law, int v, int frame,
-            String... texts) {
-        set(x, 0, p);
-        set(x, 1, q);
-        x.begin(frame);
+    private static void dueStep(String p, String q, int law, int v, int frame, String... texts) {
+        RefinementBench x = begun(frame, p, q);
         set(x, 0, "<ab");
         set(x, 1, "|T=b1");
         set(x, 2, "=c7");
@@ -271,7 +248,7 @@ public final class PromisesTest {
     }
 
     private static void refineRefusals() {
-        part = "promise 5, refusals";
+        test("promise 5, refusals");
         RefinementBench x = new RefinementBench();
         x.begin(5);
         for (int law : new int[] {-1, 0, 9, Integer.MIN_VALUE, Integer.MAX_VALUE}) {
@@ -313,7 +290,7 @@ public final class PromisesTest {
     }
 
     private static void refineRoom() {
-        part = "promise 5, room";
+        test("promise 5, room");
         RefinementBench x = new RefinementBench();
         x.begin(7);
         for (int i = 0; i < 7; i++) {
@@ -329,14 +306,6 @@ public final class PromisesTest {
         refineRoomOfTexts();
         refineRoomOfAssign();
         refineRoomOfSteps();
-    }
-
-    private static String formula(int length) {
-        StringBuilder made = new StringBuilder();
-        for (int i = 1; i < length; i++) {
-            made.append('!');
-        }
-        return made.append('T').toString();
     }
 
     private static void refineRoomOfTexts() {
@@ -438,7 +407,7 @@ public final class PromisesTest {
     }
 
     private static void prove() {
-        part = "promise 6";
+        test("promise 6");
         RefinementBench x = new RefinementBench();
         x.begin(7);
         for (int node : new int[] {-1, 0, 2, 16, 17, Integer.MIN_VALUE, Integer.MAX_VALUE}) {
@@ -530,15 +499,9 @@ public final class PromisesTest {
         dueState(x, state.isEmpty() ? "00000" : state);
     }
 
-    private static void dueState(RefinementBench x, String state) {
-        for (int i = 0; i < 5; i++) {
-            due("refuting " + i, x.refuting(i), state.charAt(i) - '0');
-        }
-    }
-
     /** All pairs of numbers under all operators, each told by one refuting state. */
     private static void proveArithmetic() {
-        part = "promise 6, numbers";
+        test("promise 6, numbers");
         for (int i = 0; i < 8; i++) {
             for (int j = 0; j < 8; j++) {
                 dueNumber("+", i, j, (i + j) % 8);
@@ -567,7 +530,7 @@ public final class PromisesTest {
     }
 
     private static void refuting() {
-        part = "promise 7";
+        test("promise 7");
         RefinementBench x = new RefinementBench();
         for (int what : new int[] {-1, 5, Integer.MIN_VALUE, Integer.MAX_VALUE}) {
             due("what " + what, x.refuting(what), BAD);
@@ -615,7 +578,7 @@ public final class PromisesTest {
     }
 
     private static void openAndFirst() {
-        part = "promises 8 and 9";
+        test("promises 8 and 9");
         RefinementBench x = new RefinementBench();
         x.begin(7);
         dueOpen(x, 1, 1);
@@ -650,13 +613,8 @@ public final class PromisesTest {
         dueOpen(x, 3, 2);
     }
 
-    private static void dueOpen(RefinementBench x, int open, int first) {
-        due("open", x.open(), open);
-        due("first", x.first(), first);
-    }
-
     private static void prune() {
-        part = "promise 10";
+        test("promise 10");
         RefinementBench x = new RefinementBench();
         x.begin(7);
         due("not refined", x.prune(1), NO);
@@ -708,7 +666,7 @@ public final class PromisesTest {
     }
 
     private static void node() {
-        part = "promise 11";
+        test("promise 11");
         RefinementBench x = new RefinementBench();
         x.begin(6);
         for (int node : new int[] {-1, 0, 2, 16, 17, Integer.MIN_VALUE, Integer.MAX_VALUE}) {
@@ -743,14 +701,8 @@ public final class PromisesTest {
         dueNode(x, 8, 6, SKIP, 0, 0, 1, 0);
     }
 
-    private static void dueNode(RefinementBench x, int node, int... wants) {
-        for (int what = 0; what < wants.length; what++) {
-            due("node(" + node + ", " + what + ")", x.node(node, what), wants[what]);
-        }
-    }
-
     private static void text() {
-        part = "promise 12";
+        test("promise 12");
         RefinementBench x = new RefinementBench();
         set(x, 0, "=ax");
         set(x, 1, "<ab");
@@ -778,7 +730,7 @@ public final class PromisesTest {
     }
 
     private static void program() {
-        part = "promise 13";
+        test("promise 13");
         RefinementBench x = new RefinementBench();
         x.begin(7);
         due("a node is open", x.program(), NO);
@@ -879,7 +831,7 @@ public final class PromisesTest {
     }
 
     private static void instruction() {
-        part = "promise 14";
+        test("promise 14");
         RefinementBench x = new RefinementBench();
         due("no program", x.instruction(0, 0), NO);
         x.begin(7);
@@ -909,7 +861,7 @@ public final class PromisesTest {
     }
 
     private static void run() {
-        part = "promise 15";
+        test("promise 15");
         RefinementBench x = new RefinementBench();
         due("no program", x.run(0, 0, 0, 1), NO);
         due("NO before BAD", x.run(0, 0, 0, -1), NO);
@@ -953,16 +905,8 @@ public final class PromisesTest {
         dueRun(x, new int[] {1, 2, 0, 2}, 2, 1, 2, 3, 0);
     }
 
-    private static void dueRun(RefinementBench x, int[] arguments, int did, int... wants) {
-        String name = "run" + java.util.Arrays.toString(arguments);
-        due(name, x.run(arguments[0], arguments[1], arguments[2], arguments[3]), did);
-        for (int v = 0; v < wants.length; v++) {
-            due(name + ", after " + v, x.after(v), wants[v]);
-        }
-    }
-
     private static void after() {
-        part = "promise 16";
+        test("promise 16");
         RefinementBench x = new RefinementBench();
         x.begin(7);
         x.run(1, 2, 3, 4);
@@ -983,39 +927,5 @@ public final class PromisesTest {
         due("b", x.after(1), 2);
         due("c", x.after(2), 3);
         due("it came to END", x.after(3), 1);
-    }
-
-    /** Types a text; one that is empty types nothing. */
-    private static void put(RefinementBench x, String text) {
-        for (int from = 0; from < text.length(); from += 8) {
-            int to = Math.min(text.length(), from + 8);
-            long characters = 0;
-            for (int i = from; i < to; i++) {
-                characters = characters << 8 | text.charAt(i);
-            }
-            due("type " + text, x.type(characters, to - from), to);
-        }
-    }
-
-    private static void set(RefinementBench x, int slot, String text) {
-        put(x, text);
-        due("hold " + text, x.hold(slot), text.length());
-    }
-
-    private static void dueText(RefinementBench x, int node, int which, String want) {
-        StringBuilder got = new StringBuilder();
-        for (int i = 0; i < 200 && x.text(node, which, i) != BAD; i++) {
-            got.append((char) x.text(node, which, i));
-        }
-        if (!got.toString().equals(want)) {
-            due("text(" + node + ", " + which + ") is " + got + " and not " + want, 0, 1);
-        }
-    }
-
-    private static void due(String call, int got, int want) {
-        if (got != want) {
-            wrong++;
-            System.out.println(part + ": " + call + " answered " + got + ", due is " + want);
-        }
     }
 }

@@ -44,6 +44,8 @@ public final class BoundariesOfTermsTest extends Checks {
         openUntilProved();
         programOfSkip();
         programOfAsks();
+        askedVariables();
+        deepestProgram();
         end("all boundaries of the terms are kept");
     }
 
@@ -89,22 +91,31 @@ public final class BoundariesOfTermsTest extends Checks {
 
     private static void numbersModulo() {
         test("sums, differences and products are taken modulo 8");
-        String[] terms = {"+70", "+71", "+17", "+77", "+44", "-00", "-70", "-77", "-01", "-07", "-67",
-            "*71", "*24", "*42", "*33", "*77", "*70", "+7+71", "-0-01", "*3*33", "-+774", "+*771"};
-        int[] numbers = {7, 0, 0, 6, 0, 0, 7, 0, 7, 1, 7,
-            7, 0, 0, 1, 1, 0, 7, 1, 3, 2, 2};
-        for (int i = 0; i < terms.length; i++) {
-            for (int other = 0; other < 8; other++) {
-                dueValid("=" + other + terms[i], other == numbers[i]);
+        for (int i = 0; i < 8; i++) {
+            for (int j = 0; j < 8; j++) {
+                dueNumber("+" + i + j, (i + j) % 8);
+                dueNumber("-" + i + j, (8 + i - j) % 8);
+                dueNumber("*" + i + j, i * j % 8);
             }
-            dueAssigned(terms[i], numbers[i]);
         }
+        dueNumber("+7+71", 7);
+        dueNumber("-0-01", 1);
+        dueNumber("*3*33", 3);
+        dueNumber("-+774", 2);
+        dueNumber("+*771", 2);
         dueAssigned("+a1", 0);
         dueAssigned("-ba", 1);
         dueAssigned("*aa", 1);
+        dueAssigned("-bc", 5);
     }
 
-    /** The number that c gets of a term when a is 7 and b is 0. */
+    private static void dueNumber(String term, int number) {
+        dueValid("=" + number + term, true);
+        dueValid("=" + (number + 1) % 8 + term, false);
+        dueAssigned(term, number);
+    }
+
+    /** The number that c gets of a term when a is 7, b is 0 and c is 3. */
     private static void dueAssigned(String term, int number) {
         RefinementBench x = begun(4, "T", "T");
         set(x, 3, term);
@@ -153,6 +164,9 @@ public final class BoundariesOfTermsTest extends Checks {
             dueHold(3, "*ab" + next, -103);
             dueHold(0, "=" + next, whole || begins ? -102 : -101);
             dueHold(1, "<0" + next, whole ? 3 : begins ? -103 : -102);
+            // A formula is wanted too here, but not before the terms.
+            dueHold(0, "&=" + next, whole || begins ? -103 : -102);
+            dueHold(0, "&=a" + next, whole || begins ? -104 : -103);
         }
     }
 
@@ -487,9 +501,9 @@ public final class BoundariesOfTermsTest extends Checks {
         due("all went", x.refine(1, WEAKER, 0), 2);
     }
 
-    /** An object with so many nodes, each but the root the only child of the one before it. */
+    /** So many nodes, each but the root the only child of the one before it; what never begins can be proved. */
     private static RefinementBench chain(int length) {
-        RefinementBench x = begun(7, "T", "T");
+        RefinementBench x = begun(7, "!T", "T");
         for (int i = 1; i < length; i++) {
             due("a chain", x.refine(i, NARROWER, 7), i + 1);
         }
@@ -803,5 +817,43 @@ public final class BoundariesOfTermsTest extends Checks {
         due("loop", x.prove(1), 1);
         due("skip", x.prove(2), 1);
         dueInstructions(x, "223040");
+    }
+
+    private static void askedVariables() {
+        test("an ASK (if F0 does not hold, on to the second part), the first child's, a JUMP behind the second one's,"
+            + " the second one's");
+        for (int v = 0; v <= 2; v++) {
+            RefinementBench x = begun(7, "T", "T");
+            set(x, 0, "<" + "abc".charAt(v) + "7");
+            x.refine(1, ALTERNATIVE, 0);
+            set(x, 3, "5");
+            x.refine(2, ASSIGN, v);
+            set(x, 3, "6");
+            x.refine(3, ASSIGN, v);
+            x.prove(2);
+            x.prove(3);
+            dueInstructions(x, "231" + v + "341" + v + "40");
+            for (int number = 6; number <= 7; number++) {
+                int[] state = {13 - number, 13 - number, 13 - number, 9};
+                state[v] = number;
+                due("run", x.run(state[0], state[1], state[2], state[3]), number == 6 ? 3 : 2);
+                due("the part that is done", x.after(v), number == 6 ? 5 : 6);
+            }
+        }
+    }
+
+    private static void deepestProgram() {
+        test("THE PROGRAM (when nothing is open) comes of the root");
+        RefinementBench x = chain(16);
+        set(x, 3, "5");
+        x.refine(16, ASSIGN, 1);
+        due("15 steps below the root", x.prove(16), 1);
+        dueInstructions(x, "1140");
+        RefinementBench y = chain(15);
+        due("a loop", y.refine(15, LOOP, 0), 16);
+        y.refine(16, ASSIGN, 2);
+        due("its conditions", y.prove(15), 1);
+        due("its child's", y.prove(16), 1);
+        dueInstructions(y, "23123040");
     }
 }

@@ -465,54 +465,12 @@ public final class ModelTest {
                     state[k] = i >> 3 * (4 - k) & 7;
                     looked = looked && (state[k] == 0 || condition.indexOf("abcxz".charAt(k)) >= 0);
                 }
-                if (looked && value(condition, state) == 0) {
+                if (looked && Worth.of(condition, state) == 0) {
                     System.arraycopy(state, 0, refuting, 0, 5);
                     return true;
                 }
             }
             return false;
-        }
-
-        private int value(String text, int[] state) {
-            reading = text;
-            place = 0;
-            return valueHere(state);
-        }
-
-        private int valueHere(int[] state) {
-            char head = reading.charAt(place++);
-            if ("abcxz".indexOf(head) >= 0) {
-                return state["abcxz".indexOf(head)];
-            }
-            if (head >= '0' && head <= '7') {
-                return head - '0';
-            }
-            if (head == 'T') {
-                return 1;
-            }
-            int p = valueHere(state);
-            if (head == '!') {
-                return 1 - p;
-            }
-            int q = valueHere(state);
-            switch (head) {
-                case '+':
-                    return (p + q) % 8;
-                case '-':
-                    return (p - q + 8) % 8;
-                case '*':
-                    return p * q % 8;
-                case '=':
-                    return p == q ? 1 : 0;
-                case '<':
-                    return p < q ? 1 : 0;
-                case '&':
-                    return p * q;
-                case '|':
-                    return Math.max(p, q);
-                default:
-                    return p <= q ? 1 : 0;
-            }
         }
 
         int refuting(int what) {
@@ -666,8 +624,8 @@ public final class ModelTest {
                 Object[] row = all.get(at++);
                 int kind = (Integer) row[0];
                 if (kind == 1) {
-                    state[(Integer) row[1]] = value((String) row[2], state);
-                } else if (kind == 3 || value((String) row[2], state) == 0) {
+                    state[(Integer) row[1]] = Worth.of((String) row[2], state);
+                } else if (kind == 3 || Worth.of((String) row[2], state) == 0) {
                     at = (Integer) row[1];
                 }
             }
